@@ -260,7 +260,10 @@ public final class SoundShelf {
     }
 
     private static int limit(int number, int least, int most) {
-        return Math.max(least, Math.min(most, number));
+        if (number < least) {
+            return least;
+        }
+        return number > most ? most : number;
     }
 
     /** Samples and their rate. */
@@ -343,7 +346,10 @@ public final class SoundShelf {
         static final int PREDICTED_HEAD = 7;
 
         int tag;
+        int head;
         int align;
+        // It divides, so it is never 0.
+        int inBlock = 1;
 
         static int tagOfSize(long size) {
             if (size == PLAIN_SIZE) {
@@ -355,6 +361,28 @@ public final class SoundShelf {
             return size == PREDICTED_SIZE ? PREDICTED : NO_TAG;
         }
 
+        void setTag(int newTag) {
+            tag = newTag;
+            head = 0;
+            if (tag == STEPPED) {
+                head = STEPPED_HEAD;
+            } else if (tag == PREDICTED) {
+                head = PREDICTED_HEAD;
+            }
+        }
+
+        void setAlign(int newAlign) {
+            align = newAlign;
+            inBlock = 1;
+            if (hasBlocks()) {
+                inBlock = Math.max(1, 2 * bytesOfNibbles() + (tag == STEPPED ? 1 : 2));
+            }
+        }
+
+        boolean hasBlocks() {
+            return tag == STEPPED || tag == PREDICTED;
+        }
+
         int sizeOfFmt() {
             if (tag == PLAIN) {
                 return PLAIN_SIZE;
@@ -362,23 +390,17 @@ public final class SoundShelf {
             return tag == STEPPED ? STEPPED_SIZE : PREDICTED_SIZE;
         }
 
-        boolean hasBlocks() {
-            return tag == STEPPED || tag == PREDICTED;
-        }
-
-        int headOfBlock() {
-            if (tag == STEPPED) {
-                return STEPPED_HEAD;
-            }
-            return tag == PREDICTED ? PREDICTED_HEAD : 0;
+        /** How many bytes of "fmt " stand behind the number that tells this. */
+        int sizeOfMore() {
+            return sizeOfFmt() - PLAIN_SIZE - 2;
         }
 
         int leastAlign() {
-            return headOfBlock() + 1;
+            return head + 1;
         }
 
         int mostAlign() {
-            return headOfBlock() + (hasBlocks() ? 8 : 2);
+            return head + (hasBlocks() ? 8 : 2);
         }
 
         int bits() {
@@ -386,29 +408,15 @@ public final class SoundShelf {
         }
 
         int bytesOfNibbles() {
-            return align - headOfBlock();
-        }
-
-        int samplesInBlock() {
-            if (!hasBlocks()) {
-                return 1;
-            }
-            // It divides, so it may not be 0 whatever the align is.
-            return Math.max(1, 2 * bytesOfNibbles() + (tag == STEPPED ? 1 : 2));
+            return align - head;
         }
 
         int bytesASecond(int rate) {
-            return rate * align / samplesInBlock();
+            return rate * align / inBlock;
         }
 
         int sizeOfData(int samples) {
-            int inBlock = samplesInBlock();
             return (samples + inBlock - 1) / inBlock * align;
-        }
-
-        /** How many bytes of "fmt " stand behind the number that tells this. */
-        int sizeOfMore() {
-            return sizeOfFmt() - PLAIN_SIZE - 2;
         }
     }
 
@@ -523,7 +531,7 @@ public final class SoundShelf {
         void writeStepped(int bytesOfNibbles) {
             startWave(Fmt.STEPPED, Fmt.STEPPED_HEAD + bytesOfNibbles);
             int index = 0;
-            for (int first = 0; first < sound.count; first += fmt.samplesInBlock()) {
+            for (int first = 0; first < sound.count; first += fmt.inBlock) {
                 file.putLittle(sound.row[first], 2);
                 file.put(index);
                 file.put(0);
@@ -538,13 +546,14 @@ public final class SoundShelf {
         void writePredicted(int bytesOfNibbles) {
             startWave(Fmt.PREDICTED, Fmt.PREDICTED_HEAD + bytesOfNibbles);
             int delta = LEAST_DELTA;
-            for (int first = 0; first < sound.count; first += fmt.samplesInBlock()) {
+            for (int first = 0; first < sound.count; first += fmt.inBlock) {
                 int pair = bestPair(first, delta);
                 file.put(pair);
                 file.putLittle(delta, 2);
                 file.putLittle(secondOfBlock(first), 2);
                 file.putLittle(sound.row[first], 2);
-                tryPair(first, delta, pair);
+                startPair(first, delta, pair);
+                chooseNibbles(predictor, first + 2);
                 putNibbles(4, 0);
                 delta = predictor.delta;
             }
@@ -565,8 +574,8 @@ public final class SoundShelf {
         }
 
         private void startWave(int tag, int align) {
-            fmt.tag = tag;
-            fmt.align = align;
+            fmt.setTag(tag);
+            fmt.setAlign(align);
             int sizeOfData = fmt.sizeOfData(sound.count);
             int bytesOfFact = fmt.hasBlocks() ? CHUNK_HEAD + FACT_SIZE : 0;
             int bytesOfData = CHUNK_HEAD + sizeOfData + sizeOfData % 2;
@@ -595,7 +604,7 @@ public final class SoundShelf {
             file.putLittle(fmt.bits(), 2);
             if (fmt.hasBlocks()) {
                 file.putLittle(fmt.sizeOfMore(), 2);
-                file.putLittle(fmt.samplesInBlock(), 2);
+                file.putLittle(fmt.inBlock, 2);
             }
             if (fmt.tag == Fmt.PREDICTED) {
                 file.putLittle(LAST_PAIR + 1, 2);
@@ -635,9 +644,10 @@ public final class SoundShelf {
 
         private int bestPair(int first, int delta) {
             int best = 0;
-            int least = tryPair(first, delta, 0);
-            for (int pair = 1; pair <= LAST_PAIR; pair++) {
-                int distances = tryPair(first, delta, pair);
+            int least = Integer.MAX_VALUE;
+            for (int pair = 0; pair <= LAST_PAIR; pair++) {
+                startPair(first, delta, pair);
+                int distances = chooseNibbles(predictor, first + 2);
                 if (distances < least) {
                     best = pair;
                     least = distances;
@@ -646,9 +656,8 @@ public final class SoundShelf {
             return best;
         }
 
-        private int tryPair(int first, int delta, int pair) {
+        private void startPair(int first, int delta, int pair) {
             predictor.start(sound.row[first], secondOfBlock(first), delta, pair);
-            return chooseNibbles(predictor, first + 2);
         }
 
         /** Fills the row of nibbles for a block, and tells how far its samples are from the sound's in all. */
@@ -701,10 +710,14 @@ public final class SoundShelf {
             hasFact = false;
             hasComm = false;
             promised = 0;
-            fmt.tag = Fmt.NO_TAG;
+            fmt.setTag(Fmt.NO_TAG);
             draft.count = 0;
-            boolean whole = takeHead() && takeChunks() && (big ? takeSsnd() : takeData()) && place == file.count;
-            return whole ? NONE : place;
+            boolean right = takeHead();
+            for (int i = 0; i < MOST_CHUNKS && right && !isAtSamples(); i++) {
+                right = takeChunk();
+            }
+            right = right && (big ? takeSsnd() : takeData()) && place == file.count;
+            return right ? NONE : place;
         }
 
         int formOfFile() {
@@ -724,50 +737,34 @@ public final class SoundShelf {
                 && takeId(big ? ID_AIFF : ID_WAVE);
         }
 
-        /** Takes all chunks before the one with the samples, and the id of that. */
-        private boolean takeChunks() {
-            int idOfSamples = big ? ID_SSND : ID_DATA;
-            for (int i = 0; i < MOST_CHUNKS; i++) {
-                if (!file.has(place, 4)) {
-                    return false;
-                }
-                int id = file.idAt(place);
-                if (id == idOfSamples) {
-                    return maySamplesFollow() && takeId(id);
-                }
-                if (!takeChunk(id)) {
-                    return false;
-                }
-            }
-            return false;
+        private boolean isAtSamples() {
+            return file.has(place, 4) && file.idAt(place) == (big ? ID_SSND : ID_DATA);
         }
 
-        private boolean maySamplesFollow() {
-            if (big) {
-                return hasComm;
-            }
-            return fmt.tag == Fmt.PLAIN || fmt.hasBlocks() && hasFact;
-        }
-
-        private boolean takeChunk(int id) {
-            if (big && id == ID_COMM) {
-                return !hasComm && takeId(id) && takeComm();
-            }
-            if (!big && id == ID_FMT) {
-                return fmt.tag == Fmt.NO_TAG && takeId(id) && takeFmt();
-            }
-            if (!big && id == ID_FACT && fmt.hasBlocks()) {
-                return !hasFact && takeId(id) && takeFact();
-            }
-            return takeId(id) && passOver();
-        }
-
-        private boolean takeFmt() {
+        /** Takes a chunk before the one with the samples. */
+        private boolean takeChunk() {
             if (!file.has(place, 4)) {
                 return false;
             }
+            int id = file.idAt(place);
+            if (big && id == ID_COMM) {
+                return !hasComm && takeComm();
+            }
+            if (!big && id == ID_FMT) {
+                return fmt.tag == Fmt.NO_TAG && takeFmt();
+            }
+            if (!big && id == ID_FACT && fmt.hasBlocks()) {
+                return !hasFact && takeFact();
+            }
+            return passOver();
+        }
+
+        private boolean takeFmt() {
+            if (!takeId(ID_FMT) || !file.has(place, 4)) {
+                return false;
+            }
             long size = file.numberAt(place, 4, big);
-            fmt.tag = Fmt.tagOfSize(size);
+            fmt.setTag(Fmt.tagOfSize(size));
             if (fmt.tag == Fmt.NO_TAG || !takeSize(size)) {
                 return false;
             }
@@ -784,7 +781,7 @@ public final class SoundShelf {
             if (!takeWithin(2, fmt.leastAlign(), fmt.mostAlign())) {
                 return false;
             }
-            fmt.align = (int) taken;
+            fmt.setAlign((int) taken);
             return take(2, fmt.bits());
         }
 
@@ -792,19 +789,17 @@ public final class SoundShelf {
             if (!fmt.hasBlocks()) {
                 return true;
             }
-            if (!take(2, fmt.sizeOfMore()) || !take(2, fmt.samplesInBlock())) {
+            if (!take(2, fmt.sizeOfMore()) || !take(2, fmt.inBlock)) {
                 return false;
             }
-            return fmt.tag == Fmt.STEPPED || take(2, LAST_PAIR + 1) && takePairs();
-        }
-
-        private boolean takePairs() {
-            for (int number : PAIRS) {
-                if (!take(2, number & 0xFFFF)) {
-                    return false;
-                }
+            if (fmt.tag == Fmt.STEPPED) {
+                return true;
             }
-            return true;
+            boolean right = take(2, LAST_PAIR + 1);
+            for (int number : PAIRS) {
+                right = right && take(2, number & 0xFFFF);
+            }
+            return right;
         }
 
         /** Bytes a second hang on the align behind them, so they are looked at when the rest is right. */
@@ -819,7 +814,7 @@ public final class SoundShelf {
         }
 
         private boolean takeFact() {
-            if (!takeSize(FACT_SIZE) || !takeWithin(4, 0, MOST_SAMPLES)) {
+            if (!takeId(ID_FACT) || !takeSize(FACT_SIZE) || !takeWithin(4, 0, MOST_SAMPLES)) {
                 return false;
             }
             promised = (int) taken;
@@ -828,7 +823,7 @@ public final class SoundShelf {
         }
 
         private boolean takeComm() {
-            if (!takeSize(COMM_SIZE) || !take(2, 1) || !takeWithin(4, 0, MOST_SAMPLES)) {
+            if (!takeId(ID_COMM) || !takeSize(COMM_SIZE) || !take(2, 1) || !takeWithin(4, 0, MOST_SAMPLES)) {
                 return false;
             }
             promised = (int) taken;
@@ -856,6 +851,7 @@ public final class SoundShelf {
         }
 
         private boolean passOver() {
+            place += 4;
             if (!file.has(place, 4)) {
                 return false;
             }
@@ -868,7 +864,8 @@ public final class SoundShelf {
         }
 
         private boolean takeData() {
-            if (!file.has(place, 4)) {
+            boolean allThere = fmt.tag == Fmt.PLAIN || fmt.hasBlocks() && hasFact;
+            if (!allThere || !takeId(ID_DATA) || !file.has(place, 4)) {
                 return false;
             }
             if (fmt.tag == Fmt.PLAIN) {
@@ -902,7 +899,7 @@ public final class SoundShelf {
         }
 
         private boolean takeStepped() {
-            for (int first = 0; first < promised; first += fmt.samplesInBlock()) {
+            for (int first = 0; first < promised; first += fmt.inBlock) {
                 int sample = takeWord();
                 if (!takeWithin(1, 0, LAST_STEP)) {
                     return false;
@@ -918,7 +915,7 @@ public final class SoundShelf {
         }
 
         private boolean takePredicted() {
-            for (int first = 0; first < promised; first += fmt.samplesInBlock()) {
+            for (int first = 0; first < promised; first += fmt.inBlock) {
                 if (!takeWithin(1, 0, LAST_PAIR)) {
                     return false;
                 }
@@ -966,7 +963,7 @@ public final class SoundShelf {
         private boolean takeSsnd() {
             int width = bits <= 8 ? 8 : 16;
             int size = SSND_HEAD + promised * (width / 8);
-            if (!takeSize(size) || !take(4, 0) || !take(4, 0)) {
+            if (!hasComm || !takeId(ID_SSND) || !takeSize(size) || !take(4, 0) || !take(4, 0)) {
                 return false;
             }
             for (int i = 0; i < promised; i++) {
@@ -999,7 +996,11 @@ public final class SoundShelf {
         }
 
         private boolean take(int n, long number) {
-            return takeWithin(n, number, number);
+            if (!file.has(place, n) || file.numberAt(place, n, big) != number) {
+                return false;
+            }
+            place += n;
+            return true;
         }
 
         private boolean takeWithin(int n, long least, long most) {
