@@ -665,14 +665,13 @@ public final class SoundShelf {
             int distances = 0;
             int many = Math.min(nibbles.length, 2 * fmt.bytesOfNibbles());
             for (int i = 0; i < many; i++) {
-                int nibble = 0;
+                nibbles[i] = 0;
                 if (from + i < sound.count) {
                     int wanted = sound.row[from + i];
-                    nibble = coder.nearest(wanted);
-                    distances += Math.abs(coder.next(nibble) - wanted);
+                    nibbles[i] = coder.nearest(wanted);
+                    distances += Math.abs(coder.next(nibbles[i]) - wanted);
                 }
-                coder.accept(nibble, coder.next(nibble));
-                nibbles[i] = nibble;
+                coder.accept(nibbles[i], coder.next(nibbles[i]));
             }
             return distances;
         }
@@ -706,10 +705,8 @@ public final class SoundShelf {
 
         int readFile() {
             place = 0;
-            big = false;
             hasFact = false;
             hasComm = false;
-            promised = 0;
             fmt.setTag(Fmt.NO_TAG);
             draft.count = 0;
             boolean right = takeHead();
