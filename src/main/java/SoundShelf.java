@@ -644,11 +644,11 @@ public final class SoundShelf {
 
         private int bestPair(int first, int delta) {
             int best = 0;
-            int least = Integer.MAX_VALUE;
+            int least = 0;
             for (int pair = 0; pair <= LAST_PAIR; pair++) {
                 startPair(first, delta, pair);
                 int distances = chooseNibbles(predictor, first + 2);
-                if (distances < least) {
+                if (pair == 0 || distances < least) {
                     best = pair;
                     least = distances;
                 }

@@ -1,9 +1,17 @@
 /** Counts answers that are not due, and ends a test with exit code 1 if there was one. */
 final class Check {
+    private static final int MOST_REPORTS = 40;
+
     private static int wrong = 0;
     private static int asked = 0;
+    private static String sentence = "";
 
     private Check() {
+    }
+
+    /** The words of the document that the checks from here on are about. */
+    static void sentence(String words) {
+        sentence = words;
     }
 
     static void same(String label, long got, long want) {
@@ -69,7 +77,7 @@ final class Check {
         return text.toString();
     }
 
-    private static String formOf(SoundShelf shelf) {
+    static String formOf(SoundShelf shelf) {
         try {
             return String.valueOf(shelf.form());
         } catch (IllegalStateException e) {
@@ -79,8 +87,8 @@ final class Check {
 
     private static void report(String text) {
         wrong++;
-        if (wrong <= 40) {
-            System.out.println(text);
+        if (wrong <= MOST_REPORTS) {
+            System.out.println(sentence.isEmpty() ? text : "\"" + sentence + "\"\n  " + text);
         }
     }
 }
