@@ -27,7 +27,8 @@ public final class BlocksTest {
         plainWords();
         samplesOfSsnd();
         lowerBits();
-        test.everyStepAndNibble();
+        test.everyDifference();
+        test.everyIndexBehind();
         test.stepsAreCut();
         test.lowNibbleFirst();
         firstSampleOfSteps();
@@ -123,16 +124,27 @@ public final class BlocksTest {
         return Math.max(0, Math.min(88, index + CHANGES[nibble % 8]));
     }
 
-    /** The second nibble, 7, tells by its difference which index the first one has led to. */
-    private void everyStepAndNibble() {
-        Check.sentence("Then the index changes by -1, -1, -1, -1, 2, 4, 6, 8 for v modulo 8 = 0 .. 7, within 0 .. 88.");
+    private void everyDifference() {
+        Check.sentence("with s the step of the index, d is s >> 3, and s >> 2 more if bit 0 of v is 1, s >> 1 more if"
+            + " bit 1, s more if bit 2");
+        everyIndexAndNibble(0);
+    }
+
+    /** The second nibble tells by its difference which index the first one has led to. */
+    private void everyIndexAndNibble(int then) {
         for (int index = 0; index <= 88; index++) {
             for (int nibble = 0; nibble < 16; nibble++) {
                 int second = cut(difference(index, nibble));
-                int third = cut(second + difference(indexBehind(index, nibble), 7));
-                steppedDue("index " + index + ", nibble " + nibble, 0, index, nibble, 7, second, third);
+                int third = cut(second + difference(indexBehind(index, nibble), then));
+                steppedDue("index " + index + ", nibble " + nibble, 0, index, nibble, then, second, third);
             }
         }
+    }
+
+    private void everyIndexBehind() {
+        Check.sentence("Then the index changes by -1, -1, -1, -1, 2, 4, 6, 8 for v modulo 8 = 0 .. 7, within 0 .. 88.");
+        everyIndexAndNibble(7);
+        everyIndexAndNibble(15);
         steppedDue("from 0 not below 0", 0, 0, 0, 7, 0, 11);
         steppedDue("from 1 to 0", 0, 1, 0, 7, 1, 12);
         // 7 from 80 comes to 88 itself, from 81 it would come to 89: the step is 32767 in both.
@@ -317,7 +329,8 @@ public final class BlocksTest {
         for (int first : ENDS) {
             for (int second : ENDS) {
                 String block = "00 1000" + Make.little(second, 2) + Make.little(first, 2) + "00";
-                Reading.reads("two", Make.wave(fmt + Make.fact(2) + Make.data(block)), 3, "8000: " + first + " " + second);
+                Reading.reads("two", Make.wave(fmt + Make.fact(2) + Make.data(block)), 3,
+                    "8000: " + first + " " + second);
                 Reading.reads("one", Make.wave(fmt + Make.fact(1) + Make.data(block)), 3, "8000: " + first);
             }
         }

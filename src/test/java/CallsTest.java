@@ -9,8 +9,8 @@ public final class CallsTest {
     private static final int METHODS = 16;
     private static final int CUT = 13;
     private static final int[] ARGUMENTS = {
-        Integer.MIN_VALUE, -32769, -32768, -256, -2, -1, 0, 1, 2, 3, 4, 5, 7, 8, 9, 15, 16, 17, 43, 44, 63, 64, 65, 82, 255,
-        256, 399, 400, 401, 8000, 32767, 32768, 191999, 192000, 192001, Integer.MAX_VALUE,
+        Integer.MIN_VALUE, -32769, -32768, -256, -2, -1, 0, 1, 2, 3, 4, 5, 7, 8, 9, 15, 16, 17, 43, 44, 63, 64, 65, 82,
+        255, 256, 399, 400, 401, 8000, 32767, 32768, 191999, 192000, 192001, Integer.MAX_VALUE,
     };
     private static final String ARGUMENT = "IllegalArgumentException";
     private static final String STATE = "IllegalStateException";

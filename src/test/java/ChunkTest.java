@@ -153,7 +153,8 @@ public final class ChunkTest {
     }
 
     private static void greatSizes() {
-        Check.sentence("how many are whole, each with its byte 0 or another one if its size is odd, before one that is not");
+        Check.sentence("how many are whole, each with its byte 0 or another one if its size is odd, before one that is"
+            + " not");
         for (String size : new String[] {
             "ffffffff", "fffffffe", "80000000", "7fffffff", "7ffffffe", "ffffffec", "ffffffe4", "ffffffe3", "0000000b",
             "0100000a", "0001000a", "0000010a",

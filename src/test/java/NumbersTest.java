@@ -343,7 +343,15 @@ public final class NumbersTest {
             withRate("16383 + " + e, Make.big(16383 + e, 2) + Make.big(1L << 63, 8), SoundShelf.NONE, (1 << e) + ":");
         }
         for (int exponent : new int[] {0, 1, 16382, 16401, 16402, 32767, 32768, 49151, 65535}) {
-            withRate("exponent " + exponent, Make.big(exponent, 2) + Make.big(1L << 63, 8), 28, "");
+            for (long number : new long[] {1L << 63, 0, -1, 1}) {
+                withRate("exponent " + exponent, Make.big(exponent, 2) + Make.big(number, 8), 28, "");
+            }
+        }
+        SoundShelf shelf = Make.file(other());
+        Make.over(shelf, 30, "8000000000000000");
+        for (int exponent = 0; exponent < 65536; exponent++) {
+            Make.over(shelf, 28, Make.big(exponent, 2));
+            Check.same("exponent " + exponent, shelf.read(), exponent < 16383 || exponent > 16400 ? 28 : SoundShelf.NONE);
         }
     }
 

@@ -12,6 +12,7 @@ public final class PlacesTest {
         firstOfTwoInSteps();
         firstOfTwoInPredictions();
         firstOfTwoInOther();
+        headersOneByOne();
         bytesASecondLast();
         notWholeAtFirst();
         notWholeFurtherOn();
@@ -19,6 +20,8 @@ public final class PlacesTest {
         idThatIsThere();
         idPassedOverAgain();
         beforeWhatHasToBeThere();
+        oneOfEachInWave();
+        oneOfEachInOther();
         riffOrFormFirst();
         waveOrAiff();
         factPassedOver();
@@ -29,6 +32,7 @@ public final class PlacesTest {
         byteBehindChunk();
         fileEndsWhereChunkBegins();
         fileGoesOn();
+        longestFile();
         Check.end();
     }
 
@@ -67,7 +71,8 @@ public final class PlacesTest {
     }
 
     private static void firstOfTwoInPredictions() {
-        firstOfTwo("predicted", Make.wave(Make.predictedFmt(8000, 2) + Make.fact(1) + Make.data("00 1000 0000 0000 0000")),
+        firstOfTwo("predicted",
+            Make.wave(Make.predictedFmt(8000, 2) + Make.fact(1) + Make.data("00 1000 0000 0000 0000")),
             new String[][] {
                 {"0", "00"}, {"4", "00"}, {"8", "00"}, {"12", "'data'"}, {"16", "33000000"}, {"20", "1100"},
                 {"22", "0101"}, {"24", "ffffffff"}, {"32", "1000"}, {"34", "0800"}, {"36", "0200"}, {"38", "0500"},
@@ -84,6 +89,25 @@ public final class PlacesTest {
             {"22", "00000041"}, {"26", "0011"}, {"28", "3ffe"}, {"30", "7a"}, {"38", "'COMM'"}, {"42", "0000000c"},
             {"46", "00000001"}, {"50", "80000000"}, {"54", "03"}, {"55", "ff"}, {"56", "01"}, {"57", "01"},
         });
+    }
+
+    private static void headersOneByOne() {
+        Check.sentence("Of blocks, numbers in headers are looked at one by one");
+        String stepped = STEPPED + Make.fact(4);
+        Reading.fails("index and 0", Make.wave(stepped + Make.data("0000 59 01 00" + "0000 59 01 00")), 62);
+        Reading.fails("0, and the next index", Make.wave(stepped + Make.data("0000 58 01 00" + "0000 59 01 00")), 63);
+        Reading.fails("the next index and 0", Make.wave(stepped + Make.data("0000 58 00 00" + "0000 59 01 00")), 67);
+        Reading.fails("the next 0", Make.wave(stepped + Make.data("0000 58 00 00" + "0000 58 01 00")), 68);
+        Reading.reads("none", Make.wave(stepped + Make.data("0000 00 00 00" + "0000 58 00 00")), 2, "8000: 0 0 0 0");
+        String predicted = PREDICTED + Make.fact(5);
+        String wrong = "07 0000 0000 0000 00";
+        Reading.fails("pair and delta", Make.wave(predicted + Make.data(wrong + wrong)), 90);
+        Reading.fails("delta, and the next pair", Make.wave(predicted + Make.data("06 0000 0000 0000 00" + wrong)), 91);
+        Reading.fails("the next pair and delta", Make.wave(predicted + Make.data("06 0100 0000 0000 00" + wrong)), 98);
+        Reading.fails("the next delta", Make.wave(predicted
+            + Make.data("06 0100 0000 0000 00" + "06 0000 0000 0000 00")), 99);
+        Reading.reads("none", Make.wave(predicted + Make.data("06 0100 0000 0000 00".repeat(2))), 3,
+            "8000: 0 0 0 0 0");
     }
 
     private static void bytesASecondLast() {
@@ -115,8 +139,9 @@ public final class PlacesTest {
             }
             Reading.fails("an id and a number", head + "00000000", 8);
             for (int n = 1; n < 4; n++) {
-                String more = head.equals("'RIFF'") ? Make.little(n, 4) + Make.hex("'WAVE'") : Make.big(n, 4) + Make.hex("'AIFF'");
-                Reading.fails("and " + n + " bytes of an id", head + more.substring(0, 8 + 2 * n), 8);
+                String number = head.equals("'RIFF'") ? Make.little(n, 4) : Make.big(n, 4);
+                String id = Make.hex(head.equals("'RIFF'") ? "'WAVE'" : "'AIFF'");
+                Reading.fails("and " + n + " bytes of an id", head + number + id.substring(0, 2 * n), 8);
             }
         }
     }
@@ -174,7 +199,8 @@ public final class PlacesTest {
         Reading.reads("before fmt", Make.wave(twice + PLAIN + NO_DATA), 0, "8000:");
         Reading.reads("behind fmt", Make.wave(PLAIN + twice + NO_DATA), 0, "8000:");
         Reading.reads("around fact", Make.wave(STEPPED + twice + Make.fact(0) + twice + NO_DATA), 2, "8000:");
-        Reading.reads("in the other file", Make.other("'LIST' 00000000" + COMM + "'LIST' 00000000" + NO_SSND), 4, "8000:");
+        Reading.reads("in the other file", Make.other("'LIST' 00000000" + COMM + "'LIST' 00000000" + NO_SSND), 4,
+            "8000:");
     }
 
     private static void beforeWhatHasToBeThere() {
@@ -190,6 +216,34 @@ public final class PlacesTest {
         Reading.reads("data behind fmt alone, plain", Make.wave(PLAIN + NO_DATA), 0, "8000:");
         Reading.reads("data behind fact", Make.wave(PREDICTED + Make.fact(0) + NO_DATA), 3, "8000:");
         Reading.reads("SSND behind COMM", Make.other(COMM + NO_SSND), 4, "8000:");
+    }
+
+    private static void oneOfEachInWave() {
+        Check.sentence("There is one \"fmt \", for 17 and 2 one \"fact\" behind it, and then one \"data\", with which the"
+            + " file ends (but for its byte 0).");
+        Reading.fails("no fmt", Make.wave(NO_DATA), 12);
+        Reading.reads("one fmt, plain", Make.wave(PLAIN + NO_DATA), 0, "8000:");
+        Reading.fails("two fmt", Make.wave(PLAIN + PLAIN + NO_DATA), 36);
+        Reading.fails("no fact", Make.wave(PREDICTED + NO_DATA), 70);
+        Reading.reads("one fact", Make.wave(PREDICTED + Make.fact(0) + NO_DATA), 3, "8000:");
+        Reading.fails("two facts", Make.wave(PREDICTED + Make.fact(0) + Make.fact(0) + NO_DATA), 82);
+        Reading.fails("no data", Make.wave(PREDICTED + Make.fact(0)), 82);
+        Reading.fails("two data", Make.wave(PREDICTED + Make.fact(0) + NO_DATA + NO_DATA), 90);
+        Reading.reads("its byte 0", Make.wave(PLAIN + "'data' 01000000 80 00"), 0, "8000: 0");
+        Reading.fails("a byte behind that", Make.wave(PLAIN + "'data' 01000000 80 00 00"), 46);
+    }
+
+    private static void oneOfEachInOther() {
+        Check.sentence("One COMM, and then one SSND, with which the file ends (but for its byte 0).");
+        Reading.fails("no COMM", Make.other(NO_SSND), 12);
+        Reading.reads("one COMM", Make.other(COMM + NO_SSND), 4, "8000:");
+        Reading.fails("two COMM", Make.other(COMM + COMM + NO_SSND), 38);
+        Reading.fails("no SSND", Make.other(COMM), 38);
+        Reading.fails("two SSND", Make.other(COMM + NO_SSND + NO_SSND), 54);
+        Reading.fails("COMM behind SSND", Make.other(COMM + NO_SSND + COMM), 54);
+        String odd = Make.comm(1, 8, 8000) + "'SSND' 00000009 0000000000000000 01 00";
+        Reading.reads("its byte 0", Make.other(odd), 4, "8000: 256");
+        Reading.fails("a byte behind that", Make.other(odd + "00"), 56);
     }
 
     private static void riffOrFormFirst() {
@@ -234,12 +288,12 @@ public final class PlacesTest {
 
     private static void passedOver() {
         Check.sentence("WAVE CHUNKS (all others are passed over).");
-        for (String id : new String[] {"'LIST'", "'FMT '", "'fmt'00", "'Data'", "'COMM'", "'SSND'", "00000000", "ffffffff"}) {
+        for (String id : new String[] {"'LIST'", "'FMT '", "'fmt'00", "'Data'", "'COMM'", "'SSND'", "00000000"}) {
             String chunk = id + "02000000 ffff";
             Reading.reads(id, Make.wave(chunk + PLAIN + chunk + Make.data("81")), 0, "8000: 256");
         }
         Check.sentence("OTHER CHUNKS (all others are passed over).");
-        for (String id : new String[] {"'NAME'", "'comm'", "'SSNE'", "'fmt '", "'data'", "'fact'", "00000000", "ffffffff"}) {
+        for (String id : new String[] {"'NAME'", "'comm'", "'SSNE'", "'fmt '", "'data'", "'fact'", "ffffffff"}) {
             String chunk = id + "00000002 ffff";
             Reading.reads(id, Make.other(chunk + Make.comm(1, 16, 5) + chunk + Make.ssnd("0007")), 4, "5: 7");
         }
@@ -260,7 +314,7 @@ public final class PlacesTest {
                 Reading.fails("a byte less, other, " + size, Make.other(other + "00".repeat(bytes - 1)), 16);
             }
         }
-        for (String size : new String[] {"ffffffff", "feffffff", "00000080", "ffffff7f", "ecffffff", "ebffffff", "f8ffffff"}) {
+        for (String size : new String[] {"ffffffff", "feffffff", "00000080", "ffffff7f", "ecffffff", "f8ffffff"}) {
             Reading.fails("size " + size, Make.wave("'LIST'" + size + PLAIN + NO_DATA), 16);
         }
         for (int n = 0; n < 4; n++) {
@@ -272,10 +326,12 @@ public final class PlacesTest {
         Reading.fails("data without its byte 0", Make.wave(PLAIN + "'data' 01000000 80"), 40);
         Reading.reads("data with it", Make.wave(PLAIN + "'data' 01000000 80 00"), 0, "8000: 0");
         Reading.fails("data a byte short", Make.wave(PLAIN + "'data' 02000000 80"), 40);
-        Reading.fails("blocks without the byte 0", Make.wave(STEPPED + Make.fact(1) + "'data' 05000000 0000 00 00 00"), 56);
-        Reading.reads("blocks with it", Make.wave(STEPPED + Make.fact(1) + "'data' 05000000 0000 00 00 00 00"), 2, "8000: 0");
-        Reading.fails("SSND without its byte 0", Make.other(Make.comm(1, 8, 8000) + "'SSND' 00000009 0000000000000000 00"), 42);
-        Reading.reads("SSND with it", Make.other(Make.comm(1, 8, 8000) + "'SSND' 00000009 0000000000000000 00 00"), 4, "8000: 0");
+        String blocks = STEPPED + Make.fact(1) + "'data' 05000000 0000 00 00 00";
+        Reading.fails("blocks without the byte 0", Make.wave(blocks), 56);
+        Reading.reads("blocks with it", Make.wave(blocks + "00"), 2, "8000: 0");
+        String ssnd = Make.comm(1, 8, 8000) + "'SSND' 00000009 0000000000000000 00";
+        Reading.fails("SSND without its byte 0", Make.other(ssnd), 42);
+        Reading.reads("SSND with it", Make.other(ssnd + "00"), 4, "8000: 0");
         Reading.fails("fact a byte short", Make.wave(STEPPED + "'fact' 04000000 000000"), 44);
         Reading.fails("fmt of 16 a byte short", Make.shortened(Make.wave(PLAIN), 35), 16);
         Reading.fails("fmt of 20 a byte short", Make.shortened(Make.wave(STEPPED), 39), 16);
@@ -305,10 +361,13 @@ public final class PlacesTest {
     }
 
     private static void byteBehindChunk() {
-        Check.sentence("The byte 0 behind a chunk of odd size, also behind one that is passed over, is a number of one byte.");
-        SoundShelf plain = Make.file(Make.wave("'LIST' 01000000 0100" + PLAIN + "'LIST' 03000000 01020300" + Make.data("80")));
+        Check.sentence("The byte 0 behind a chunk of odd size, also behind one that is passed over, is a number of one"
+            + " byte.");
+        SoundShelf plain = Make.file(Make.wave("'LIST' 01000000 0100" + PLAIN + "'LIST' 03000000 01020300"
+            + Make.data("80")));
         SoundShelf stepped = Make.file(Make.wave(STEPPED + Make.fact(1) + Make.data("0000 00 00 00")));
-        SoundShelf predicted = Make.file(Make.wave(Make.predictedFmt(8000, 2) + Make.fact(1) + Make.data("00 1000 0000 0000 0000")));
+        SoundShelf predicted = Make.file(Make.wave(Make.predictedFmt(8000, 2) + Make.fact(1)
+            + Make.data("00 1000 0000 0000 0000")));
         SoundShelf other = Make.file(Make.other("'NAME' 00000001 0100" + Make.comm(1, 8, 8000) + Make.ssnd("01")));
         everyByteBehind(plain, 21);
         everyByteBehind(plain, 57);
@@ -327,7 +386,8 @@ public final class PlacesTest {
     }
 
     private static void fileEndsWhereChunkBegins() {
-        Check.sentence("Where a chunk should begin, but the file ends, or where it should end and does not, it fails there.");
+        Check.sentence("Where a chunk should begin, but the file ends, or where it should end and does not, it fails"
+            + " there.");
         Reading.fails("no chunk", Make.wave(""), 12);
         Reading.fails("no chunk, other", Make.other(""), 12);
         Reading.fails("fmt alone", Make.wave(PLAIN), 36);
@@ -344,16 +404,31 @@ public final class PlacesTest {
     }
 
     private static void fileGoesOn() {
-        for (String more : new String[] {"00", "0000", "'LIST'", "'LIST' 00000000", "'fmt '", Make.hex(NO_DATA), Make.hex(NO_SSND)}) {
+        for (String more : new String[] {"00", "0000", "'LIST'", "'LIST' 00000000", "'fmt '", NO_DATA, NO_SSND}) {
             Reading.fails("bytes", Make.wave(PLAIN + Make.data("8081") + more), 46);
             Reading.fails("bytes and the byte 0", Make.wave(PLAIN + Make.data("80") + more), 46);
             Reading.fails("none", Make.wave(PLAIN + NO_DATA + more), 44);
             Reading.fails("stepped", Make.wave(STEPPED + Make.fact(1) + Make.data("0000 00 00 00") + more), 66);
-            Reading.fails("predicted", Make.wave(PREDICTED + Make.fact(1) + Make.data("00 1000 0000 0000 00") + more), 98);
+            Reading.fails("predicted",
+                Make.wave(PREDICTED + Make.fact(1) + Make.data("00 1000 0000 0000 00") + more), 98);
             Reading.fails("other", Make.other(Make.comm(1, 8, 8000) + Make.ssnd("01") + more), 56);
             Reading.fails("other, even", Make.other(Make.comm(1, 16, 8000) + Make.ssnd("0001") + more), 56);
         }
         // The byte behind is looked at before the end.
         Reading.fails("a wrong byte behind, and more", Make.wave(PLAIN + "'data' 01000000 80 01 00"), 45);
+    }
+
+    private static void longestFile() {
+        Check.sentence("THE FILE has at most 400 bytes");
+        String wave = Make.wave("'LIST' 1c010000" + "ff".repeat(284) + PLAIN + Make.data("81".repeat(64)));
+        Check.same("wave", Make.length(wave), 400);
+        Reading.reads("wave", wave, 0, "8000:" + " 256".repeat(64));
+        String name = "'NAME' 000000d2" + "ff".repeat(210);
+        String other = Make.other(Make.comm(64, 9, 192000) + name + Make.ssnd("0080".repeat(64)));
+        Check.same("other", Make.length(other), 400);
+        Reading.reads("other", other, 4, "192000:" + " 128".repeat(64));
+        Reading.fails("chunks to the end", Make.wave("'LIST' 00000000".repeat(48)), 396);
+        Reading.fails("a chunk to the end", Make.wave("'LIST' 7c010000" + "00".repeat(380)), 400);
+        Reading.fails("a chunk beyond the end", Make.wave("'LIST' 7d010000" + "00".repeat(380)), 16);
     }
 }

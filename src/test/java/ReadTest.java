@@ -18,6 +18,7 @@ public final class ReadTest {
         failsLate();
         fileStays();
         formOfLatest();
+        formsOneAfterTheOther();
         formOfNone();
         readsWhatWasWritten();
         Check.end();
@@ -34,10 +35,13 @@ public final class ReadTest {
     private static void plain() {
         Reading.reads("bytes", Make.wave(PLAIN_BYTES + "'data' 04000000 00 7f 80 ff"), 0, "8000: -32768 -256 0 32512");
         Reading.reads("odd bytes", Make.wave(PLAIN_BYTES + "'data' 01000000 81 00"), 0, "8000: 256");
-        Reading.reads("words", Make.wave(PLAIN_WORDS + "'data' 08000000 0080 ffff ff7f 0102"), 1, "8000: -32768 -1 32767 513");
+        Reading.reads("words", Make.wave(PLAIN_WORDS + "'data' 08000000 0080 ffff ff7f 0102"), 1,
+            "8000: -32768 -1 32767 513");
         Reading.reads("none", Make.wave(PLAIN_WORDS + "'data' 00000000"), 1, "8000:");
-        Reading.reads("64 bytes", Make.wave(PLAIN_BYTES + "'data' 40000000" + "80".repeat(64)), 0, "8000:" + " 0".repeat(64));
-        Reading.reads("64 words", Make.wave(PLAIN_WORDS + "'data' 80000000" + "0100".repeat(64)), 1, "8000:" + " 1".repeat(64));
+        Reading.reads("64 bytes", Make.wave(PLAIN_BYTES + "'data' 40000000" + "80".repeat(64)), 0,
+            "8000:" + " 0".repeat(64));
+        Reading.reads("64 words", Make.wave(PLAIN_WORDS + "'data' 80000000" + "0100".repeat(64)), 1,
+            "8000:" + " 1".repeat(64));
     }
 
     private static void stepped() {
@@ -49,7 +53,8 @@ public final class ReadTest {
             "8000: 0 -32768 -32768");
         Reading.reads("index 88 stays", Make.wave(STEPPED + fact(3) + "'data' 05000000 0080 58 00 07 00"), 2,
             "8000: -32768 28668 32763");
-        Reading.reads("index 0 stays", Make.wave(STEPPED + fact(3) + "'data' 05000000 0a00 00 00 42 00"), 2, "8000: 10 13 20");
+        Reading.reads("index 0 stays", Make.wave(STEPPED + fact(3) + "'data' 05000000 0a00 00 00 42 00"), 2,
+            "8000: 10 13 20");
         Reading.reads("two blocks", Make.wave(STEPPED + fact(4) + "'data' 0a000000 0000 00 00 87 ffff 0a 00 00"), 2,
             "8000: 0 11 9 -1");
         Reading.reads("none", Make.wave(STEPPED + fact(0) + "'data' 00000000"), 2, "8000:");
@@ -66,13 +71,16 @@ public final class ReadTest {
         // 460 * -3 - 208 * 7 is -2836, which is -12 when shifted by 8; 460 * -12 + 208 * 3 is -4896, which is -20.
         Reading.reads("pair 5, shifted down", Make.wave(PREDICTED + fact(4) + "'data' 08000000 05 1000 fdff 0700 00"), 3,
             "8000: 7 -3 -12 -20");
-        Reading.reads("one sample", Make.wave(PREDICTED + fact(1) + "'data' 08000000 06 0100 0900 feff ff"), 3, "8000: -2");
-        Reading.reads("two samples", Make.wave(PREDICTED + fact(2) + "'data' 08000000 06 0100 0900 feff ff"), 3, "8000: -2 9");
+        Reading.reads("one sample", Make.wave(PREDICTED + fact(1) + "'data' 08000000 06 0100 0900 feff ff"), 3,
+            "8000: -2");
+        Reading.reads("two samples", Make.wave(PREDICTED + fact(2) + "'data' 08000000 06 0100 0900 feff ff"), 3,
+            "8000: -2 9");
         // 65535 is no -1; then delta is at most 32767, so that the second is 32767 less.
         Reading.reads("delta 65535", Make.wave(PREDICTED + fact(4) + "'data' 08000000 02 ffff 0000 0000 1f"), 3,
             "8000: 0 0 32767 -32767");
         // Delta 1 is used as it is, and becomes 16.
-        Reading.reads("delta 1", Make.wave(PREDICTED + fact(4) + "'data' 08000000 02 0100 0000 0000 71"), 3, "8000: 0 0 7 16");
+        Reading.reads("delta 1", Make.wave(PREDICTED + fact(4) + "'data' 08000000 02 0100 0000 0000 71"), 3,
+            "8000: 0 0 7 16");
         Reading.reads("none", Make.wave(PREDICTED + fact(0) + "'data' 00000000"), 3, "8000:");
         Reading.reads("64", Make.wave(PREDICTED + fact(64) + "'data' 80000000" + "00 1000 0300 0300 00".repeat(16)), 3,
             "8000:" + " 3".repeat(64));
@@ -172,6 +180,31 @@ public final class ReadTest {
                 shelf.clear();
                 shelf.cut(0);
                 Check.same("when all is gone", shelf.form(), form);
+            }
+        }
+    }
+
+    /** Nothing of a file that was written or read before, or that failed, is left for the next one. */
+    private static void formsOneAfterTheOther() {
+        for (int before = 0; before < 5; before++) {
+            for (int after = 0; after < 5; after++) {
+                SoundShelf shelf = ofMany(9);
+                shelf.write(after, 3);
+                String due = Check.hexOf(shelf);
+                SoundShelf other = ofMany(9);
+                other.write(before, 5);
+                other.write(after, 3);
+                Check.same(after + " written behind " + before, Check.hexOf(other), due);
+                other.write(before, 5);
+                Check.same("read " + before, other.read(), SoundShelf.NONE);
+                other.poke(12, 0);
+                int failed = other.read();
+                Check.isTrue("fails", failed > 0);
+                other.cut(0);
+                Make.append(other, due);
+                Check.same("read " + after, shelf.read(), SoundShelf.NONE);
+                Check.same("read " + after + " behind " + before, other.read(), SoundShelf.NONE);
+                Check.same(after + " read behind " + before, Check.state(other), Check.state(shelf));
             }
         }
     }

@@ -48,6 +48,7 @@ public final class WriteTest {
     }
 
     private static void plain() {
+        Check.sentence("Form 0: wave, plain, 8 bits; 1: 16 bits");
         SoundShelf shelf = Make.sound(8000, 0, -32768, 32767);
         due("bytes", shelf, 0, 99, "'RIFF' 28000000 'WAVE' 'fmt ' 10000000 0100 0100 401f0000 401f0000 0100 0800"
             + "'data' 03000000 80 00 ff 00");
@@ -61,6 +62,7 @@ public final class WriteTest {
     }
 
     private static void stepped() {
+        Check.sentence("2: stepped, size m");
         due("stepped", Make.sound(8000, 0, 11, 11, 50), 2, 1,
             "'RIFF' 3e000000 'WAVE' 'fmt ' 14000000 1100 0100 401f0000 15340000 0500 0400 0200 0300"
             + "'fact' 04000000 04000000 'data' 0a000000 0000 00 00 07 3200 07 00 00");
@@ -76,6 +78,8 @@ public final class WriteTest {
     }
 
     private static void steppedTies() {
+        Check.sentence("Each nibble is the one with which the next sample comes nearest to that of the sound, of several"
+            + " the least");
         // With step 7 the nibbles 4 .. 7 all come to 32767: the least of them is taken.
         dataDue("cut above", Make.sound(8000, 32760, 32767), 2, 1, "f87f 00 00 04 00");
         dataDue("cut below", Make.sound(8000, -32761, -32768), 2, 1, "0780 00 00 0c 00");
@@ -90,6 +94,7 @@ public final class WriteTest {
     }
 
     private static void predicted() {
+        Check.sentence("3: predicted, size m (1 .. 8 both)");
         due("predicted", Make.sound(8000, 0, 100, 200, 300, 5), 3, 1,
             "'RIFF' 62000000 'WAVE' 'fmt ' 32000000 0200 0100 401f0000 803e0000 0800 0400 2000 0400 0700"
             + "0001 0000 0002 00ff 0000 0000 c000 4000 f000 0000 cc01 30ff 8801 18ff"
@@ -108,6 +113,8 @@ public final class WriteTest {
     }
 
     private static void predictedTies() {
+        Check.sentence("Each nibble is the one with which the next sample comes nearest to that of the sound, of several"
+            + " the least");
         dataDue("all pairs alike", Make.sound(8000, 0, 0, 0, 0), 3, 1, "00 1000 0000 0000 00");
         // 8 is as far from 0 as from 16, -8 as far from 0 as from -16.
         dataDue("between", Make.sound(8000, 0, 0, 8), 3, 1, "00 1000 0000 0000 00");
@@ -119,6 +126,7 @@ public final class WriteTest {
     }
 
     private static void other() {
+        Check.sentence("4: the other one, size bits");
         SoundShelf shelf = Make.sound(44100, 0, -32768, 32767, -1, 2048);
         String head = "'AIFF' 'COMM' 00000012 0001 00000005";
         String rate = "400e ac44000000000000";
@@ -137,6 +145,8 @@ public final class WriteTest {
     }
 
     private static void longRates() {
+        Check.sentence("big 2: 16383 + e; big 8: rate * 2 to the 63 - e, where 2 to the e is the greatest power of 2"
+            + " that is not above the rate");
         int[] rates = {1, 2, 3, 255, 256, 8000, 65535, 65536, 131071, 131072, 192000};
         String[] numbers = {
             "3fff8000", "40008000", "4000c000", "4006ff00", "40078000", "400bfa00", "400effff", "400f8000",
@@ -151,6 +161,7 @@ public final class WriteTest {
     }
 
     private static void noSamples() {
+        Check.sentence("No samples, no file.");
         SoundShelf shelf = new SoundShelf();
         due("no bytes", shelf, 0, 0, "'RIFF' 24000000 'WAVE' 'fmt ' 10000000 0100 0100 401f0000 401f0000 0100 0800"
             + "'data' 00000000");
@@ -162,6 +173,7 @@ public final class WriteTest {
     }
 
     private static void largest() {
+        Check.sentence("A SOUND has at most 64 SAMPLES");
         SoundShelf shelf = new SoundShelf();
         for (int i = 0; i < 64; i++) {
             shelf.add(i * 997 % 4001 - 2000);
@@ -334,8 +346,8 @@ public final class WriteTest {
     }
 
     private static void indexGoesOn() {
-        Check.sentence("In a stepped block the index is 0 in the first one, and that with which the one before it ended in"
-            + " others.");
+        Check.sentence("In a stepped block the index is 0 in the first one, and that with which the one before it ended"
+            + " in others.");
         String fmt = Make.steppedFmt(8000, 8);
         // Eleven nibbles come to 88, and five more would lead above it.
         writesWhatWasRead("to 88", Make.wave(fmt + Make.fact(18)
@@ -409,7 +421,8 @@ public final class WriteTest {
     private static void inPlaceOfWhatWas() {
         Check.sentence("Writes the sound as the file, in place of what was there: how many bytes it has.");
         SoundShelf shelf = Make.sound(8000, 1, 2);
-        String bytes = "'RIFF' 26000000 'WAVE' 'fmt ' 10000000 0100 0100 401f0000 401f0000 0100 0800 'data' 02000000 80 80";
+        String bytes = "'RIFF' 26000000 'WAVE' 'fmt ' 10000000 0100 0100 401f0000 401f0000 0100 0800"
+            + "'data' 02000000 80 80";
         due("for none", shelf, 0, 0, bytes);
         due("for the same", shelf, 0, 0, bytes);
         shelf.write(3, 8);
