@@ -9,6 +9,7 @@ public final class ReadTest {
     private static final String ZEROS = "00000000 00000000";
 
     public static void main(String[] args) {
+        Check.sentence("Reads the file: NONE, and the sound is what it has from now on, rate and samples");
         plain();
         stepped();
         predicted();
@@ -140,6 +141,7 @@ public final class ReadTest {
 
     /** Most of the file has been taken when it fails, and still nothing of it is kept. */
     private static void failsLate() {
+        Check.sentence("and the sound (and what form() tells) stays");
         String[] files = {
             Make.wave(STEPPED + fact(4) + "'data' 0a000000 0100 00 00 77 0100 59 00 77"),
             Make.wave(PREDICTED + fact(5) + "'data' 10000000 00 1000 0100 0100 77 07 1000 0100 0100 77"),
